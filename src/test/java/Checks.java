@@ -1,0 +1,50 @@
+/** Counts what holds and prints what does not. */
+final class Checks {
+    interface Call {
+        Object run();
+    }
+
+    private int held;
+    private int broken;
+
+    /** What a call comes to: its answer, or the name of what it throws. */
+    static String outcome(Call call) {
+        try {
+            return String.valueOf(call.run());
+        } catch (RuntimeException thrown) {
+            return "throws " + thrown.getClass().getSimpleName();
+        }
+    }
+
+    void due(String what, Object due, Call call) {
+        String got = outcome(call);
+        if (got.equals(String.valueOf(due))) {
+            held++;
+        } else {
+            broken++;
+            System.out.println(what + ": due is " + due + ", but it is " + got);
+        }
+    }
+
+    void index(String what, Call call) {
+        due(what, "throws IndexOutOfBoundsException", call);
+    }
+
+    void argument(String what, Call call) {
+        due(what, "throws IllegalArgumentException", call);
+    }
+
+    void state(String what, Call call) {
+        due(what, "throws IllegalStateException", call);
+    }
+
+    void element(String what, Call call) {
+        due(what, "throws NoSuchElementException", call);
+    }
+
+    /** Ends the program, with the exit code 1 if something is broken or nothing was looked at. */
+    void end(String name) {
+        System.out.println(name + ": " + held + " checks hold, " + broken + " do not");
+        System.exit(broken == 0 && held > 0 ? 0 : 1);
+    }
+}
