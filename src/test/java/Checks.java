@@ -42,6 +42,14 @@ final class Checks {
         due(what, "throws NoSuchElementException", call);
     }
 
+    void unsupported(String what, Call call) {
+        due(what, "throws UnsupportedOperationException", call);
+    }
+
+    void arithmetic(String what, Call call) {
+        due(what, "throws ArithmeticException", call);
+    }
+
     /** Ends the program, with the exit code 1 if something is broken or nothing was looked at. */
     void end(String name) {
         System.out.println(name + ": " + held + " checks hold, " + broken + " do not");

@@ -1,0 +1,40 @@
+/** The calls of the face, so that the program and the model of the tests can be asked alike. */
+interface Store {
+    int load(int many, int first, int step, int turn);
+    boolean set(int row, int column, int value);
+    boolean clear(int row, int column);
+    int remove(int row);
+    int valueAt(int row, int column);
+    int moment();
+    int chunks();
+    char encoding(int chunk, int column);
+    int bits(int chunk, int column);
+    int changes(int chunk);
+    int least(int chunk, int column);
+    int greatest(int chunk, int column);
+    boolean mayMiss(int chunk, int column);
+    int mend(int chunk);
+    int compare(char kind, int column, int number);
+    int join(char kind, int first, int second);
+    int canBe(int filter, int chunk);
+    int open(int filter, int key, int measure, int grant);
+    int read(int steps);
+    int takeBack(int scan, int grant);
+    boolean isDone(int scan);
+    int position();
+    long chunksRead();
+    int skipped(int scan);
+    int spilled(int scan);
+    int aside(int scan);
+    int groups(int scan);
+    int keyAt(int scan, int index);
+    int total(int scan, int index, int what);
+    int edge(int scan, int index, boolean isGreatest);
+    boolean isKept(int scan);
+    int keptFor(int filter, int key, int measure);
+    int sum(int filter, int measure);
+    int bound(int filter, int measure, boolean isAbove);
+    double meanBits();
+    float skippedShare();
+    boolean isSound();
+}
