@@ -653,6 +653,12 @@ public final class GranaryPartition {
 
         void forget() {
             for (int column = 0; column < COLUMNS; column++) {
+                forgetColumn(column);
+            }
+        }
+
+        private void forgetColumn(int column) {
+            if (column >= 0 && column < COLUMNS) {
                 // No number lies from the one to the other, and the first one that comes replaces both.
                 leasts[column] = GREATEST_VALUE + 1;
                 greatests[column] = -GREATEST_VALUE - 1;
@@ -670,6 +676,11 @@ public final class GranaryPartition {
             }
             leasts[column] = Math.min(leasts[column], value);
             greatests[column] = Math.max(greatests[column], value);
+        }
+
+        void admitAlone(int column, int value) {
+            forgetColumn(column);
+            admit(column, value);
         }
 
         int leastOf(int column) {
@@ -959,9 +970,11 @@ public final class GranaryPartition {
         }
 
         boolean chooses(int filter, Rows rows, int row) {
-            single.forget();
+            int columns = columnsOf(filter);
             for (int column = 0; column < COLUMNS; column++) {
-                single.admit(column, rows.valueOf(row, column));
+                if ((columns >> column & 1) != 0) {
+                    single.admitAlone(column, rows.valueOf(row, column));
+                }
             }
             return outcomes(filter, single) == TRUE;
         }
@@ -1025,7 +1038,7 @@ public final class GranaryPartition {
 
         void take(int key, int measure) {
             int index = placeOf(key);
-            if (!hasKey(key)) {
+            if (index >= size || cell(index, KEY) != key) {
                 insert(index, key);
             }
             int start = index * WIDTH;
@@ -1171,7 +1184,7 @@ public final class GranaryPartition {
             this.moment = moment;
             this.chunkCount = chunkCount;
             this.seen = now.asTheyAre();
-            this.groups = new Groups(now.living);
+            this.groups = new Groups(seen.living);
             this.parts = new Parts(grant);
         }
 

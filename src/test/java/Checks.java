@@ -12,8 +12,22 @@ final class Checks {
         try {
             return String.valueOf(call.run());
         } catch (RuntimeException thrown) {
-            return "throws " + thrown.getClass().getSimpleName();
+            String name = "throws " + thrown.getClass().getSimpleName();
+            return isOfMachine(thrown) ? name + " by itself: " + thrown.getMessage() : name;
         }
+    }
+
+    /** What the program throws has no text; what the machine or a list throws in it has one. */
+    private static boolean isOfMachine(RuntimeException thrown) {
+        if (thrown.getMessage() == null) {
+            return false;
+        }
+        for (StackTraceElement element : thrown.getStackTrace()) {
+            if (element.getClassName().startsWith("GranaryPartition")) {
+                return true;
+            }
+        }
+        return false;
     }
 
     void due(String what, Object due, Call call) {

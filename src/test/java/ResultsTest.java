@@ -218,6 +218,10 @@ public final class ResultsTest {
         scanned(store, joined, -1, 2);
         store.clear(0, 0);
         CHECKS.due("32: another one in its filter", false, () -> store.isKept(1));
+        scanned(store, missing, -1, 2);
+        store.set(0, 0, 3);
+        store.set(0, 3, 1);
+        CHECKS.due("32: without a key no column is its key", true, () -> store.isKept(2));
     }
 
     private static void otherCallsKeep() {
