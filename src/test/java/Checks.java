@@ -64,9 +64,13 @@ final class Checks {
         due(what, "throws ArithmeticException", call);
     }
 
+    boolean allHold() {
+        return broken == 0 && held > 0;
+    }
+
     /** Ends the program, with the exit code 1 if something is broken or nothing was looked at. */
     void end(String name) {
         System.out.println(name + ": " + held + " checks hold, " + broken + " do not");
-        System.exit(broken == 0 && held > 0 ? 0 : 1);
+        System.exit(allHold() ? 0 : 1);
     }
 }

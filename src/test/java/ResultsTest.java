@@ -268,7 +268,7 @@ public final class ResultsTest {
         CHECKS.due("32: the lowest number was done first", false, () -> store.isKept(0));
         CHECKS.due("32: two behind it", true, () -> store.isKept(1));
         CHECKS.due("32: none behind it", true, () -> store.isKept(3));
-        // A scan that was opened later can be done earlier.
+        // The first one is done in an earlier step than the others, which are done in one.
         GranaryPartition other = filtered(40);
         other.open(0, 3, 0, 1);
         other.read(1);
